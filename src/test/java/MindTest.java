@@ -47,6 +47,7 @@ final class MindTest {
         Due.is("the first of several", x.first(0), 1);
         x.debt(0, 200);
         Due.is("100 YEARS", x.solvent(0), 100);
+        Due.is("it alone, so late", Due.told("f0120;d000200;r00;").first(0), 0);
         x.debt(0, 201);
         Due.is("101 are too many", x.solvent(0), -9);
         x.debt(0, 0);

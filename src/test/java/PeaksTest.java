@@ -49,6 +49,10 @@ final class PeaksTest {
         Due.is("99998 and more", x.doubled(3), 4);
         x.debt(0, 4);
         Due.is("it bears nothing", x.doubled(0), -9);
+        PaidByTheUnborn y = Due.told("f0100;d000100;r01;");
+        Due.is("1 each YEAR up to the 100th", y.doubled(0), 100);
+        y.debt(0, 101);
+        Due.is("the 101st is too late", y.doubled(0), -9);
         Due.refused(x, "doubled of nobody", () -> x.doubled(4), -1);
     }
 
@@ -75,6 +79,8 @@ final class PeaksTest {
         Due.is("YEAR 5, 6", x.bestBirths(0, 2), 1);
         x.debt(0, 2);
         Due.is("2 by 2 in YEAR 5, of 1 and 5", x.bestBirths(0, 1), 1);
+        x.years(4);
+        Due.is("YEAR 9 alone, of 1, 3 and 9", x.bestBirths(0, 1), 1);
         Due.is("BIRTHS as they were", x.familyOf(0, 3), 0);
         Due.refused(x, "bestBirths of nobody", () -> x.bestBirths(2, -1), -1);
         Due.refused(x, "bestBirths below", () -> x.bestBirths(0, -1), -4);
@@ -101,6 +107,10 @@ final class PeaksTest {
         Due.is("less from now on", x.crosses(1, 0), 0);
         PaidByTheUnborn y = Due.told("f0100;f0100;");
         Due.is("never", y.crosses(0, 1), -9);
+        PaidByTheUnborn z = Due.told("f0110;f0100;d000599;d100500;r00;");
+        Due.is("behind 100", z.crosses(0, 1), 100);
+        z.debt(0, 600);
+        Due.is("behind 101", z.crosses(0, 1), -9);
         Due.refused(x, "crosses of nobody", () -> x.crosses(2, 0), -1);
         Due.refused(x, "crosses with nobody", () -> x.crosses(0, -1), -1);
         Due.refused(x, "crosses of one", () -> x.crosses(1, 1), -1);
@@ -134,6 +144,11 @@ final class PeaksTest {
         Due.is("41 to 21", x.half(), -9);
         x.debt(1, 20);
         Due.is("40 to 20", x.half(), 20);
+        x.debt(1, 0);
+        x.debt(0, 200);
+        Due.is("behind 100", x.half(), 100);
+        x.debt(0, 201);
+        Due.is("behind 101", x.half(), -9);
     }
 
     private static void row() {
