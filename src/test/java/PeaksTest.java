@@ -51,8 +51,8 @@ final class PeaksTest {
         Due.is("it bears nothing", x.doubled(0), -9);
         PaidByTheUnborn y = Due.told("f0100;d000100;r01;");
         Due.is("1 each YEAR up to the 100th", y.doubled(0), 100);
-        y.debt(0, 101);
-        Due.is("the 101st is too late", y.doubled(0), -9);
+        PaidByTheUnborn z = Due.told("f0110;d000365;r01;");
+        Due.is("the 101st is too late", z.doubled(0), -9);
         Due.refused(x, "doubled of nobody", () -> x.doubled(4), -1);
     }
 
