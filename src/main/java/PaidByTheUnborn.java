@@ -1068,7 +1068,7 @@ public final class PaidByTheUnborn {
             built = from.built;
             builtCount = from.builtCount;
             for (int f = 0; f < familyCount; f++) at(f).copy(from.at(f));
-            for (int w = 0; w < works.length; w++) {
+            for (int w = 0; w < works.length && w < builtOrder.length; w++) {
                 works[w] = from.workAt(w);
                 builtOrder[w] = from.builtAs(w);
             }
