@@ -79,9 +79,11 @@ public final class PaidByTheUnborn {
     public int treasury() {
         mind.copy(now);
         int answer = text.faultOfForm();
-        for (int place = 0; answer >= 0 && place < text.count; place += text.lengthAt(place)) {
+        int place = 0;
+        for (int k = 0; k < MOST_LETTERS && answer >= 0 && place < text.count; k++) {
             boolean fits = text.enact(place, mind) >= 0;
             answer = fits ? answer + 1 : FAULT_OF_SENSE - place;
+            place += text.lengthAt(place);
         }
         text.empty();
         if (answer > 0) {
@@ -348,7 +350,7 @@ public final class PaidByTheUnborn {
             int debts = debtsAsTried(left);
             if (debts < least) {
                 least = debts;
-                System.arraycopy(tried, 0, best, 0, best.length);
+                System.arraycopy(tried, 0, best, 0, Math.min(tried.length, best.length));
             }
         }
         if (i == -1) return least;

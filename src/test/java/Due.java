@@ -1,20 +1,29 @@
+import java.util.Arrays;
+import java.util.function.LongSupplier;
+
 /** What the tests share: a tally of the answers that are not due, and the objects on which they ask. */
 final class Due {
+    private static final int MOST_TOLD = 200;
     private static int wrong = 0;
 
     private Due() {
     }
 
     static void is(String call, long got, long want) {
-        if (got == want) return;
-        wrong++;
-        System.out.println(call + " answered " + got + ", due is " + want);
+        if (got != want) tell(call + " answered " + got + ", due is " + want);
     }
 
     static void holds(String claim, boolean holds) {
-        if (holds) return;
+        if (!holds) tell("does not hold: " + claim);
+    }
+
+    private static void tell(String what) {
         wrong++;
-        System.out.println("does not hold: " + claim);
+        if (wrong <= MOST_TOLD) System.out.println(what);
+    }
+
+    static void endIfWrong() {
+        if (wrong != 0) end();
     }
 
     static void end() {
@@ -22,19 +31,19 @@ final class Due {
         if (wrong != 0) System.exit(1);
     }
 
-    /** Refusals leave no trace but their own count. */
-    static void refused(PaidByTheUnborn x, String call, java.util.function.LongSupplier asked, int number) {
-        long[] ahead = counts(x);
+    /** That it is refused so, and counted so; that it leaves no other trace is looked at in CallsTest. */
+    static void refused(PaidByTheUnborn x, String call, LongSupplier asked, int number) {
+        long[] ahead = refusals(x);
         long got = asked.getAsLong();
         is(call, got < 0 ? got : 4000000000000000000L - got, number);
-        ahead[10 - number]++;
-        long[] behind = counts(x);
-        for (int k = 0; k < ahead.length; k++) is(call + ", count " + k, behind[k], ahead[k]);
+        ahead[-1 - number]++;
+        long[] behind = refusals(x);
+        holds(call + " is counted once: " + Arrays.toString(behind), Arrays.equals(ahead, behind));
     }
 
-    private static long[] counts(PaidByTheUnborn x) {
-        long[] counts = new long[17];
-        for (int k = 0; k < counts.length; k++) counts[k] = x.count(k);
+    static long[] refusals(PaidByTheUnborn x) {
+        long[] counts = new long[6];
+        for (int k = 0; k < counts.length; k++) counts[k] = x.count(11 + k);
         return counts;
     }
 

@@ -19,7 +19,7 @@ final class RoomTest {
         for (int run = 0; run < 400; run++) {
             PaidByTheUnborn x = run % 2 == 0 ? new PaidByTheUnborn() : Due.three();
             Method[] calls = PaidByTheUnborn.class.getDeclaredMethods();
-            for (int k = 0; k < 512; k++) {
+            for (int k = 0; k < 420; k++) {
                 Method m = calls[random.nextInt(calls.length)];
                 if (!Modifier.isPublic(m.getModifiers())) continue;
                 Object[] given = new Object[m.getParameterCount()];
@@ -35,7 +35,7 @@ final class RoomTest {
         calls(x);
         long self = Thread.currentThread().getId();
         long ahead = threads.getThreadAllocatedBytes(self);
-        for (int k = 0; k < 8; k++) calls(x);
+        for (int k = 0; k < 5; k++) calls(x);
         long behind = threads.getThreadAllocatedBytes(self);
         Due.holds("calls make no objects: " + (behind - ahead) + " bytes", behind - ahead < 4096);
         for (int k = 0; k < 100; k++) new PaidByTheUnborn();
