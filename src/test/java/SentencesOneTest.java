@@ -1,6 +1,8 @@
 /** Chapter I, sentence by sentence where one tells a boundary; the letters' are in LettersTest. */
 final class SentencesOneTest {
     public static void main(String[] args) {
+        aNewObject();
+        aNewObjectInMind();
         fiveFamilies();
         debtIsNothingAtFirst();
         paysAHeadAYear();
@@ -43,6 +45,54 @@ final class SentencesOneTest {
         }
         Due.is(text + " builds", x.builds(0), sum);
         debts(text, x, due);
+    }
+
+    /** Promise 1: "No FAMILIES, YEAR 0". */
+    private static void aNewObject() {
+        PaidByTheUnborn x = new PaidByTheUnborn();
+        int[] due = {0, 0, 0, 5, 0, 0, 0, 0, 0, 0, -9, 0, 0, 0, 0, 0, 0, -9};
+        for (int what = 0; what < due.length; what++) Due.is("new count " + what, x.count(what), due[what]);
+        Due.is("no FAMILY", x.familyOf(0, 0), -1);
+        Due.is("no WORK", x.workOf(0, 0), -1);
+        Due.is("none is BUILT", x.builds(0), -1);
+        Due.is("no DEBT", x.debt(0, 0), -1);
+        Due.is("nothing to take back", x.back(), -3);
+        Due.is("no image", x.restore(), -3);
+        Due.is("no letters", x.treasury(), -1000);
+        Due.is("nothing in the ROW", x.clear(), 0);
+        Due.is("nobody to judge", x.judge(0), -1);
+        Due.is("RATE", x.rate(5), 5);
+        Due.is("back", x.back(), 0);
+        Due.is("YEARS", x.years(60), 0);
+        Due.is("YEAR", x.count(2), 60);
+        Due.is("back in YEAR 0", x.back() + x.count(2), 0);
+        Due.is("an image of YEAR 0", x.image() + x.restore(), 0);
+    }
+
+    private static void aNewObjectInMind() {
+        PaidByTheUnborn x = new PaidByTheUnborn();
+        Due.is("all", x.all(0) + x.all(100), 0);
+        Due.is("first", x.first(0), -9);
+        Due.is("GROWS", x.first(1), 0);
+        Due.is("STUCK", x.first(2), -9);
+        Due.is("building", x.building(0, 0, 0) + x.building(100, 999, 1), 0);
+        Due.is("oneMore", x.oneMore(0), -9);
+        Due.is("bestMerger", x.bestMerger(0), -9);
+        Due.is("cheapest", x.cheapest(0, 0), -9);
+        Due.is("FOUGHT OVER", x.cheapest(100, 1), 0);
+        Due.is("whoBuilt: none, by the empty ROW", x.whoBuilt(0), 1);
+        Due.is("the least", x.whoBuilt(1), 0);
+        Due.is("OLDEST, LAST", x.oldest(0) + x.oldest(1), -18);
+        Due.is("order", x.order(-1), 0);
+        Due.is("the first of none", x.order(0), -9);
+        Due.is("jubilee", x.jubilee(100), -9);
+        Due.is("fair", x.fair(0), 0);
+        Due.is("who", x.fair(1), -9);
+        Due.is("commonPay", x.commonPay(100, 0), 0);
+        Due.is("rank", x.rank(0), -9);
+        Due.is("half", x.half(), 0);
+        Due.is("lots", x.lots(1, 1, 0) + x.lots(20, 1, 1), 0);
+        for (int what = 11; what <= 16; what++) Due.is("nothing was refused, count " + what, x.count(what), 0);
     }
 
     /** "FAMILIES 0 .. 4 as they come (5 at most)". */
